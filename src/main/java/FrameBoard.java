@@ -465,7 +465,7 @@ public final class FrameBoard {
 
     /** The arrow number of the first frame that refutes the formula; its evaluation stays in truth. */
     private int firstRefuting(int worlds) {
-        int frames = 1 << worlds * worlds;
+        int frames = 1 << (worlds * worlds);
         for (int number = 0; number < frames; number++) {
             candidate.build(worlds, number);
             if (candidate.fits(frame.kind) && !truth.isValid(formula, candidate)) {
@@ -476,7 +476,7 @@ public final class FrameBoard {
     }
 
     private boolean defines(int law) {
-        int frames = 1 << 3 * 3;
+        int frames = 1 << (3 * 3);
         for (int number = 0; number < frames; number++) {
             candidate.build(3, number);
             if (candidate.obeys(law) != truth.isValid(formula, candidate)) {
@@ -510,7 +510,7 @@ public final class FrameBoard {
     }
 
     private static int bit(int set, int item) {
-        return set >> item & 1;
+        return (set >> item) & 1;
     }
 
     /** The lowest item of a set that is not empty: as many items lie below its lowest bit. */
@@ -749,7 +749,7 @@ public final class FrameBoard {
             p = 0;
             q = 0;
             for (int a = 0; a < size; a++) {
-                join(a, arrowNumber >> size * a & (1 << size) - 1);
+                join(a, (arrowNumber >> (size * a)) & ((1 << size) - 1));
             }
         }
 
@@ -759,21 +759,25 @@ public final class FrameBoard {
         }
 
         private static int rowOf(int relation, int a) {
-            return relation >> MOST_WORLDS * a & (1 << MOST_WORLDS) - 1;
+            return (relation >> (MOST_WORLDS * a)) & ((1 << MOST_WORLDS) - 1);
+        }
+
+        private static int pair(int a, int b) {
+            return 1 << (MOST_WORLDS * a + b);
         }
 
         boolean has(int a, int b) {
-            return bit(row(a), b) == 1;
+            return (arrows & pair(a, b)) != 0;
         }
 
         /** Adds the arrow if it is not there, and removes it if it is. */
         void turn(int a, int b) {
-            arrows ^= 1 << MOST_WORLDS * a + b;
+            arrows ^= pair(a, b);
         }
 
         /** Adds arrows from a to all worlds of a set. */
         private void join(int a, int set) {
-            arrows |= set << MOST_WORLDS * a;
+            arrows |= set << (MOST_WORLDS * a);
         }
 
         int arrowCount() {
@@ -793,8 +797,8 @@ public final class FrameBoard {
         }
 
         void setMarks(int a, int marks) {
-            p = p & ~(1 << a) | bit(marks, 0) << a;
-            q = q & ~(1 << a) | bit(marks, 1) << a;
+            p = (p & ~(1 << a)) | (bit(marks, 0) << a);
+            q = (q & ~(1 << a)) | (bit(marks, 1) << a);
         }
 
         boolean fits(int type) {
@@ -889,7 +893,7 @@ public final class FrameBoard {
             for (int a = 0; a < worlds; a++) {
                 if (a != world) {
                     int place = a < world ? a : a - 1;
-                    left |= without(row(a), world) << MOST_WORLDS * place;
+                    left |= without(row(a), world) << (MOST_WORLDS * place);
                 }
             }
             arrows = left;
@@ -900,7 +904,7 @@ public final class FrameBoard {
 
         private static int without(int set, int world) {
             int below = (1 << world) - 1;
-            return set & below | set >> 1 & ~below;
+            return (set & below) | ((set >> 1) & ~below);
         }
 
         /** Bends the arrows to the lowest worlds of the classes, then drops the others, from the last one on. */
@@ -952,7 +956,7 @@ public final class FrameBoard {
             for (int a = 0; a < worlds; a++) {
                 for (int b = 0; b < worlds; b++) {
                     if (marks(a) == marks(b)) {
-                        alike |= 1 << MOST_WORLDS * a + b;
+                        alike |= pair(a, b);
                     }
                 }
             }
@@ -965,7 +969,7 @@ public final class FrameBoard {
                 for (int b = 0; b < worlds; b++) {
                     boolean matched = isMatched(alike, a, b) && isMatched(alike, b, a);
                     if (matched && bit(rowOf(alike, a), b) == 1) {
-                        left |= 1 << MOST_WORLDS * a + b;
+                        left |= pair(a, b);
                     }
                 }
             }
@@ -1080,8 +1084,8 @@ public final class FrameBoard {
             int x = seed;
             for (int lane = 0; lane < times; lane++) {
                 for (int a = 0; a < worlds; a++) {
-                    x = 1103515245 * x + 12345 & Integer.MAX_VALUE;
-                    addLetters(a, x >> 16 & 3, lane);
+                    x = (1103515245 * x + 12345) & 0x7FFFFFFF;
+                    addLetters(a, (x >> 16) & 3, lane);
                 }
             }
             return x;
@@ -1200,7 +1204,7 @@ public final class FrameBoard {
 
         int lowestWithout(int lane, int worlds) {
             for (int a = 0; a < worlds; a++) {
-                if ((at(0, a) >> lane & 1) == 0) {
+                if (((at(0, a) >> lane) & 1) == 0) {
                     return a;
                 }
             }
