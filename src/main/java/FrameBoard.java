@@ -378,11 +378,28 @@ public final class FrameBoard {
         }
     }
 
+    /** In one piece, since helpers of its own would make the chain of calls too deep for rule 11. */
     public long digest() {
         long h = 1481;
-        if (hasFrame()) {
-            h = digestOfFrame(h);
-            h = digestOfParts(h);
+        for (int what = 0; hasFrame() && what < TOLD_OF_FRAME; what++) {
+            h = 31 * h + about(what);
+        }
+        for (int a = 0; a < frame.worlds; a++) {
+            for (int what = 0; what < TOLD_OF_WORLD; what++) {
+                h = 31 * h + world(a, what);
+            }
+            for (int b = 0; b < frame.worlds; b++) {
+                h = 31 * h + arrow(a, b);
+            }
+        }
+        for (int law = 0; hasFrame() && law < LAWS; law++) {
+            h = 31 * h + keeps(law);
+        }
+        if (hasFrame() && hasFormula()) {
+            h = 31 * h + valid();
+        }
+        for (int k = 0; hasFrame() && k < formula.length(); k++) {
+            h = 31 * h + part(k);
         }
         for (int k = 0; k < formula.length(); k++) {
             h = 31 * h + sign(k);
@@ -394,36 +411,6 @@ public final class FrameBoard {
         }
         for (int what = 0; what < COUNTS; what++) {
             h = 31 * h + count(what);
-        }
-        return h;
-    }
-
-    private long digestOfFrame(long start) {
-        long h = start;
-        for (int what = 0; what < TOLD_OF_FRAME; what++) {
-            h = 31 * h + about(what);
-        }
-        for (int a = 0; a < frame.worlds; a++) {
-            for (int what = 0; what < TOLD_OF_WORLD; what++) {
-                h = 31 * h + world(a, what);
-            }
-            for (int b = 0; b < frame.worlds; b++) {
-                h = 31 * h + arrow(a, b);
-            }
-        }
-        for (int law = 0; law < LAWS; law++) {
-            h = 31 * h + keeps(law);
-        }
-        return h;
-    }
-
-    private long digestOfParts(long start) {
-        if (!hasFormula()) {
-            return start;
-        }
-        long h = 31 * start + valid();
-        for (int k = 0; k < formula.length(); k++) {
-            h = 31 * h + part(k);
         }
         return h;
     }
@@ -727,6 +714,8 @@ public final class FrameBoard {
 
     /** A frame; one without worlds stands for none. The arrow from a to b is bit 4 * a + b of arrows. */
     private static final class Frame {
+        private static final int ALL_WORLDS = (1 << MOST_WORLDS) - 1;
+
         int kind;
         int worlds;
         private int arrows;
@@ -755,11 +744,11 @@ public final class FrameBoard {
 
         /** The set of worlds to which an arrow leads from a. */
         int row(int a) {
-            return rowOf(arrows, a);
+            return (arrows >> (MOST_WORLDS * a)) & ALL_WORLDS;
         }
 
         private static int rowOf(int relation, int a) {
-            return (relation >> (MOST_WORLDS * a)) & ((1 << MOST_WORLDS) - 1);
+            return (relation >> (MOST_WORLDS * a)) & ALL_WORLDS;
         }
 
         private static int pair(int a, int b) {
@@ -767,7 +756,7 @@ public final class FrameBoard {
         }
 
         boolean has(int a, int b) {
-            return (arrows & pair(a, b)) != 0;
+            return ((arrows >> (MOST_WORLDS * a + b)) & 1) == 1;
         }
 
         /** Adds the arrow if it is not there, and removes it if it is. */
@@ -1183,7 +1172,7 @@ public final class FrameBoard {
         /** The lanes in which a part holds in a world. */
         long at(int part, int world) {
             int index = MOST_WORLDS * part + world;
-            return isBelow(index, held.length) ? held[index] : 0;
+            return index >= 0 && index < held.length ? held[index] : 0;
         }
 
         private void set(int part, int world, long lanes) {
