@@ -84,8 +84,8 @@ public final class PromisesTest {
     private void fault(int what, String text, int index) {
         FrameBoard board = new FrameBoard();
         checks.write(board, text);
-        checks.due("fault(" + what + ") of " + text, board.fault(what), index);
-        checks.due("characters after fault() of " + text, board.count(6), text.length());
+        checks.due("fault(" + what + ") of " + text, checks.ask(board, "fault(" + what + ")"), index);
+        checks.due("characters after fault() of " + text, checks.ask(board, "count(6)"), text.length());
     }
 
     // Promise 4
@@ -176,7 +176,7 @@ public final class PromisesTest {
         for (String text : new String[] {"", ">p", "pp", "~", "k1:;pq", "p "}) {
             checks.write(board, text);
             checks.run(board, "formula() = -103; count(2) = 10; sign(0) = 62; count(8) = 1");
-            checks.due("characters of " + text, board.blank(), text.length());
+            checks.due("characters of " + text, checks.ask(board, "blank()"), text.length());
         }
         checks.readFormula(board, "q");
         checks.run(board, "count(2) = 1; sign(0) = 113; sign(1) = -101; count(8) = 2; count(5) = 1; about(2) = 1");
@@ -326,9 +326,8 @@ public final class PromisesTest {
     /** For all frames with three worlds, against a search through all frames with more arrows. */
     private void closeAddsAsFewAsPossible() {
         for (int kind = 0; kind < 5; kind++) {
-            FrameBoard board = checks.with("ktsyd".charAt(kind) + "3:;pq", "");
             for (int number = 0; number < 512; number++) {
-                setArrows(board, number);
+                FrameBoard board = checks.with(Checks.frameText(kind, 3, number), "");
                 int least = 9;
                 for (int more = number; more < 512; more++) {
                     if ((more & number) == number && Model.numbered(kind, 3, more, 0).fits(kind)) {
@@ -336,23 +335,17 @@ public final class PromisesTest {
                     }
                 }
                 String which = " of kind " + kind + ", arrow number " + number;
-                checks.due("close()" + which, board.close(), least);
-                checks.due("fits after close()" + which, board.about(3), 1);
+                checks.due("close()" + which, checks.ask(board, "close()"), least);
+                checks.due("fits after close()" + which, checks.ask(board, "about(3)"), 1);
                 checks.due("arrows kept" + which, arrowNumber(board) & number, number);
             }
         }
     }
 
-    private static void setArrows(FrameBoard board, int number) {
-        for (int bit = 0; bit < 9; bit++) {
-            board.draw(bit / 3, bit % 3, (number >> bit & 1) == 1);
-        }
-    }
-
-    private static int arrowNumber(FrameBoard board) {
+    private int arrowNumber(FrameBoard board) {
         int number = 0;
         for (int bit = 0; bit < 9; bit++) {
-            number += board.arrow(bit / 3, bit % 3) << bit;
+            number += checks.ask(board, "arrow(" + bit / 3 + ", " + bit % 3 + ")") == 1 ? 1 << bit : 0;
         }
         return number;
     }
