@@ -156,6 +156,8 @@ final class AnswerEdges extends Edges {
             checks.run(board, "tells(5) = -102; tells(-1) = -102; count(10) = " + times);
         }
         checks.run(board, "tells(0) = -103; tells(4) = -103; tells(5) = -102; count(10) = 12; fail(1, 0) = 0");
+        with("k1:;pq", ">Npp", "count(9) = 0" + "; fail(1, 0) = 0".repeat(12) + "; tells(0) = 1".repeat(12)
+            + "; tells(0) = -103; count(9) = 12; count(10) = 12");
         checks.readFormula(board, "p");
         checks.readFrame(board, "k1:;pq");
         checks.run(board, "tells(0) = -103; count(10) = 12; count(9) = 1");
@@ -263,7 +265,21 @@ final class AnswerEdges extends Edges {
     private void drawn() {
         promise(27);
         says("Evaluates the formula in the frame under random valuations.");
-        with("k1:00;p0q0", "&pMq", "drawn(4, 2, 0) = 1; drawn(4, 2, 1) = 1; drawn(2, 2, 0) = 0; drawn(3, 2, 0) = 1");
+        with("k1:00;p0q0", "&pMq", "part(0) = 1; drawn(4, 2, 0) = 1; drawn(4, 2, 1) = 1; drawn(2, 2, 0) = 0;"
+            + " drawn(3, 2, 0) = 1; part(0) = 1; drawn(2, 2, 1) = 0");
+        for (int worlds = 1; worlds <= 4; worlds++) {
+            with("k" + worlds + ":;pq", "|p~p", "fail(3, 0) = -1; drawn(60, 3, 0) = " + 60 * worlds
+                + "; drawn(60, 3, 1) = 60; drawn(1, 3, 0) = " + worlds);
+            with("k" + worlds + ":;p0q", "&p~p", "fail(3, 0) = 0; part(1) = 1; drawn(60, 3, 0) = 0; drawn(60, 3, 1) = 0");
+        }
+        says("Each time, for each world in ascending order, a random number less than 4 is drawn");
+        // The numbers drawn from the state 2 on are 0, 1, 3, 2; only in the world with the arrow can the formula hold.
+        with("k2:00;pq", "Mp", "drawn(1, 2, 0) = 0; drawn(2, 2, 0) = 1; drawn(2, 2, 1) = 0");
+        with("k2:11;pq", "Mp", "drawn(1, 2, 0) = 1; drawn(2, 2, 0) = 1; drawn(2, 2, 1) = 0");
+        with("k4:00;pq", "|MpMq", "drawn(1, 2, 0) = 0");
+        with("k4:11;pq", "&Mp~Mq", "drawn(1, 2, 0) = 1");
+        with("k4:22;pq", "&MpMq", "drawn(1, 2, 0) = 1");
+        with("k4:33;pq", "&M~pMq", "drawn(1, 2, 0) = 1");
         says("Nothing changes.");
         FrameBoard board = with("k2:01;p1q", "|p~p", "see(1, true) = 1; image() = 2");
         long before = checks.ask(board, "digest()");
@@ -486,6 +502,8 @@ final class AnswerEdges extends Edges {
         long[] alone = joined(ofFrame, ofWorlds, laws, new long[] {31, 0, 33, 2, 2, 0, 0, 2, 0, 1, 1, 0, 0, 0});
         long[] both = joined(ofFrame, ofWorldsThen, laws, new long[] {0, 1, 2, 1}, new long[] {62, 113, 112},
             new long[] {22, 1, 126, 32, 2, 2, 3, 1, 2, 1, 2, 1, 1, 1, 2});
+        long[] oneWay = {0, 2, 1, 1, 2, 1, 0, 0, 0, 0, 1, 0, 1, 0, 1, 1, 1, 1, 1, 0, 0, 0, 1, 0, 0, 0, 1, 3, 2, 1, 2,
+            124, 112, 126, 112, 31, 0, 2, 1, 4, 2, 1, 0, 0, 1, 1, 0, 0};
         long[] formulaAlone = {62, 113, 112, 31, 0, 0, 0, 3, 0, 0, 0, 0, 0, 1, 0, 0};
         for (String words : new String[] {"if there is a frame, about(0) to about(4)",
             "for each world a, world(a, 0) to world(a, 5) and then arrow(a, b) for each world b",
@@ -496,6 +514,7 @@ final class AnswerEdges extends Edges {
             due(with(frame, "", "letter(33) = 1"), "digest()", checksum(alone));
             due(with(frame, ">qp", "see(0, false) = 1; tells(0) = 0; tells(1) = 0; fail(1, 0) = 1; letter(126) = 1;"
                 + " letter(32) = 2"), "digest()", checksum(both));
+            due(with("k2:01;p1q", "|p~p", "valid() = 1"), "digest()", checksum(oneWay));
             due(with("", ">qp", "frame() = -103"), "digest()", checksum(formulaAlone));
         }
     }

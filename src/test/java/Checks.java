@@ -1,3 +1,4 @@
+import java.lang.reflect.InvocationTargetException;
 import java.lang.reflect.Method;
 import java.util.ArrayList;
 import java.util.HashMap;
@@ -10,6 +11,8 @@ import java.util.Map;
 final class Checks {
     /** What an object answers after so many calls is free, so no test may ask it for more. */
     private static final int MOST_CALLS = 512;
+    /** Stands for the answer of a call that threw; no call is due to answer this. */
+    private static final long THREW = Long.MIN_VALUE;
     private static final Map<String, Method> METHODS = new HashMap<>();
 
     private final List<String> wrong = new ArrayList<>();
@@ -156,7 +159,10 @@ final class Checks {
         }
         try {
             return ((Number) method.invoke(object, arguments)).longValue();
-        } catch (ReflectiveOperationException e) {
+        } catch (InvocationTargetException e) {
+            System.out.println(method.getName() + " threw " + e.getCause());
+            return THREW;
+        } catch (IllegalAccessException e) {
             throw new IllegalStateException(method.getName(), e);
         }
     }

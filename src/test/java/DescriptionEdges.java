@@ -478,7 +478,10 @@ final class DescriptionEdges extends Edges {
         with("k2:;pq1", "&pq", "part(0) = 0; part(1) = 0; world(1, 4) = 1");
         with("k2:00;pq", "Mp", "world(1, 4) = 0; mark(0, 1) = 0; world(1, 4) = 1");
         with("k2:00;pq", "Np", "part(1) = 0; part(0) = 2; world(1, 4) = 1");
-        with("k4:01,12,23;pq", "~~~~~~~~~~~~~~~p", "world(3, 4) = 0; world(3, 3) = 3; mark(0, 1) = 0; world(3, 4) = 1");
+        FrameBoard board = with("k4:01,12,23;pq", "~~~~~~~~~~~~~~~p", "world(3, 4) = 0; world(3, 3) = 3; mark(0, 1) = 0;"
+            + " world(3, 4) = 1");
+        checks.readFormula(board, "q");
+        checks.run(board, "world(1, 4) = 0; world(3, 4) = 0");
     }
 
     private void observations() {

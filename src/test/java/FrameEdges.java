@@ -315,8 +315,10 @@ final class FrameEdges extends Edges {
         with("s4:32,21,10;pq", "", "close() = 7; about(3) = 1; arrow(3, 0) = 1; arrow(0, 3) = 0");
         with("s4:03,31,12,20;pq", "", "close() = 12; about(3) = 1; about(2) = 16");
         with("y4:01,02,03,12,13,23,00;pq", "", "close() = 6; about(3) = 1; arrow(3, 0) = 1; arrow(1, 1) = 0");
+        with("y4:30,20,10,32,31,21,33;pq", "", "close() = 6; about(3) = 1; arrow(0, 3) = 1; arrow(0, 0) = 0");
         with("y4:00,11;pq", "", "close() = 0; about(2) = 2");
         with("k4:01,12;pq", "", "close() = 0; about(2) = 2; about(3) = 1");
+        with("d4:01,12,23,30;pq", "", "close() = 0; about(2) = 4; draw(2, 3, false) = 3; close() = 1; about(3) = 1");
         says("(For kind 4, a world from which there is no arrow gets an arrow to itself.)");
         with("d4:01,33;pq", "", "close() = 2; arrow(1, 1) = 1; arrow(2, 2) = 1; arrow(0, 0) = 0; about(3) = 1");
         with("d4:03,13,23;pq", "", "close() = 1; arrow(3, 3) = 1");
