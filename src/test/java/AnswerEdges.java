@@ -95,7 +95,7 @@ final class AnswerEdges extends Edges {
         says("`worlds`: the number of worlds, 1 to 3");
         beyond(with("t4:;pq", "p", "fail(1, 0) = 1; fail(2, 0) = 9; fail(3, 0) = 273; fail(0, 0) = -102;"
             + " fail(4, 0) = -102"), "fail(*, 0)", 1, 3, OUTSIDE);
-        says("0: its arrow number");
+        says("`what`: 0: its arrow number");
         with("d1:;pq", "p", "fail(1, 0) = 1; fail(2, 0) = 5; fail(3, 0) = 73");
         says("1: its valuation number");
         with("k1:;pq", "~q", "fail(1, 1) = 2; fail(2, 1) = 4; fail(3, 1) = 8");
@@ -230,7 +230,7 @@ final class AnswerEdges extends Edges {
             due(board, "sorts(0)", possible);
             due(board, "sorts(1)", possible == 0 ? -1 : bestThing(possible));
         }
-        says("0: the set of possible kinds");
+        says("`what`: 0: the set of possible kinds");
         checks.fresh("sorts(0) = 31");
         with("k1:;pq", "", "sorts(0) = 31; see(3, false) = 1; sorts(0) = 4; see(3, true) = 2; sorts(0) = 0");
         says("1: the thing, 0 to 3, about which to ask next, so that, whatever the answer is, the number of kinds that"
@@ -332,7 +332,7 @@ final class AnswerEdges extends Edges {
             due(board, call + "0)", held[letter]);
             says("Each time, for each world in ascending order, a random number less than 4 is drawn");
             due(board, call + "1)", whole[letter]);
-            says("0: in how many worlds the formula holds, added up over all times");
+            says("`what`: 0: in how many worlds the formula holds, added up over all times");
             due(board, call + "0)", held[letter]);
             says("1: how often it holds in all worlds");
             due(board, call + "1)", whole[letter]);
@@ -392,7 +392,7 @@ final class AnswerEdges extends Edges {
 
     private void countsOfTheFrame() {
         promise(30);
-        says("0: worlds");
+        says("`what`: 0: worlds");
         checks.fresh("count(0) = 0");
         with("k1:;pq", "", "count(0) = 1; add() = 1; count(0) = 2; add() = 2; add() = 3; count(0) = 4");
         says("1: arrows");
@@ -437,6 +437,11 @@ final class AnswerEdges extends Edges {
             checks.readFormula(board, "p");
             checks.run(board, "formula() = -103; count(8) = " + times);
         }
+        board = new FrameBoard();
+        for (int times = 1; times <= 255; times++) {
+            checks.readFormula(board, "p");
+        }
+        checks.run(board, "count(8) = 255; digest() = " + checksum(112, 31, 0, 0, 0, 1, 0, 0, 0, 0, 0, 255, 0, 0));
         says("9: how often fail() has been called without an error");
         board = with("k1:;pq", "p", "count(9) = 0; fail(0, 0) = -102; count(9) = 0");
         for (int times = 1; times <= 12; times++) {

@@ -125,6 +125,10 @@ final class Checks {
         }
     }
 
+    static boolean threw(long answer) {
+        return answer == THREW;
+    }
+
     /** Makes a call that is written as text, on an object of any class. */
     static long call(Object object, String call) {
         int open = call.indexOf('(');

@@ -59,7 +59,9 @@ final class DescriptionEdges extends Edges {
         checks.due("OUTSIDE", FrameBoard.OUTSIDE, -102);
         checks.due("STATE", FrameBoard.STATE, -103);
         checks.due("FULL", FrameBoard.FULL, -104);
-        with("k4:;pq", "p", "world(4, 0) = -101; part(1) = -101; be(5) = -102; restore() = -103; add() = -104");
+        says("`NONE = -1, UNKNOWN = -101, OUTSIDE = -102, STATE = -103, FULL = -104`: The value for \"there is none\", and"
+            + " the error codes.");
+        with("k4:;pq", "p", "as(1) = -1; world(4, 0) = -101; part(1) = -101; be(5) = -102; restore() = -103; add() = -104");
         says("Sets are ints in which bit k stands for item k.");
         for (int set = 0; set < 16; set++) {
             FrameBoard board = with("k4:;pq", "p", "part(0) = 0");

@@ -1,121 +1,141 @@
 import java.io.IOException;
 import java.lang.reflect.Constructor;
 import java.lang.reflect.Field;
+import java.lang.reflect.Member;
 import java.lang.reflect.Method;
 import java.lang.reflect.Modifier;
-import java.nio.file.Files;
-import java.nio.file.Path;
-import java.util.HashSet;
+import java.util.ArrayList;
 import java.util.List;
 import java.util.Set;
 import java.util.TreeSet;
-import java.util.regex.Matcher;
-import java.util.regex.Pattern;
 
-/** The public face of the document, and those rules of LANGUAGE.md that can be seen without much reading. */
+/** The public face that the document gives, word for word, and nothing else that is public. */
 public final class FaceTest {
-    private static final Path SOURCE = Path.of("src/main/java/FrameBoard.java");
-    private static final Set<String> FACE = Set.of(
-        "int letter(int)", "int blank()", "int fault(int)", "int frame()", "int formula()", "int about(int)",
-        "int as(int)", "int world(int, int)", "int arrow(int, int)", "int part(int)", "int sign(int)",
-        "int draw(int, int, boolean)", "int mark(int, int)", "int add()", "int take(int)", "int be(int)",
-        "int close()", "int shrink()", "int valid()", "int fail(int, int)", "int tells(int)", "int keeps(int)",
-        "int see(int, boolean)", "int forget()", "int sorts(int)", "int drawn(int, int, int)", "int image()",
-        "int restore()", "int count(int)", "long digest()");
-    private static final Set<String> CONSTANTS = Set.of("NONE", "UNKNOWN", "OUTSIDE", "STATE", "FULL");
-    private static final List<String> BARRED = List.of("\\bthrow\\b", "\\bthrows\\b", "\\btry\\b", "\\bcatch\\b",
-        "\\bsynchronized\\b", "\\bassert\\b", "\\bimport\\b", "\\bpackage\\b", "->", "::", "@", "Exact\\b",
-        "\\bSystem\\.(?!arraycopy)", "\\b(Integer|Long)\\.M", "\\bnative\\b", "\\bvolatile\\b");
+    private static final int STATIC_FINAL = Modifier.PUBLIC | Modifier.STATIC | Modifier.FINAL;
 
     private final Checks checks = new Checks();
-    private final String source;
+    private final Document document;
+    /** The lines of the face, without "public". */
+    private final List<String> face = new ArrayList<>();
 
-    private FaceTest(String source) {
-        this.source = source;
+    private FaceTest(Document document) {
+        this.document = document;
+        for (String line : document.face()) {
+            face.add(line.replaceFirst("^public ", ""));
+        }
     }
 
-    public static void main(String[] args) throws IOException {
-        FaceTest test = new FaceTest(Files.readString(SOURCE));
-        test.members();
-        test.classesInside();
-        test.barredWords();
-        test.methodLengths();
+    public static void main(String[] args) throws IOException, ReflectiveOperationException {
+        FaceTest test = new FaceTest(Document.ofTheClass());
+        test.theClass();
+        test.constants();
+        test.constructor();
+        test.methods();
+        test.nothingElse();
+        test.promises();
         test.checks.finish("FaceTest");
     }
 
-    private void members() {
-        checks.due("modifiers of the class", FrameBoard.class.getModifiers(), Modifier.PUBLIC | Modifier.FINAL);
+    private void same(String what, Object found, Object want) {
+        checks.due(what + " " + found + " for " + want, found.equals(want) ? 1 : 0, 1);
+    }
+
+    private void theClass() {
+        checks.of("the class");
+        same("first line", document.body("The public face").contains("\npublic final class FrameBoard {\n"), true);
+        checks.due("modifiers", FrameBoard.class.getModifiers(), Modifier.PUBLIC | Modifier.FINAL);
+        same("name", FrameBoard.class.getName(), "FrameBoard");
+        same("class above", FrameBoard.class.getSuperclass(), Object.class);
+        checks.due("interfaces", FrameBoard.class.getInterfaces().length, 0);
+        checks.due("lines of the face", face.size(), 1 + 1 + 30);
+    }
+
+    private void constants() throws ReflectiveOperationException {
+        checks.of("the constants");
+        Set<String> names = new TreeSet<>();
+        for (String constant : face.get(0).replaceFirst("static final int ", "").split(", ")) {
+            String[] sides = constant.split(" = ");
+            Field field = FrameBoard.class.getField(sides[0]);
+            checks.due("modifiers of " + sides[0], field.getModifiers(), STATIC_FINAL);
+            same("type of " + sides[0], field.getType(), int.class);
+            checks.due(sides[0], field.getInt(null), Long.parseLong(sides[1]));
+            names.add(sides[0]);
+        }
+        same("names", names, Set.of("NONE", "UNKNOWN", "OUTSIDE", "STATE", "FULL"));
+        checks.due("NONE", places(-1), 1);
+        checks.due("UNKNOWN", places(-101), 2);
+        checks.due("OUTSIDE", places(-102), 3);
+        checks.due("STATE", places(-103), 4);
+        checks.due("FULL", places(-104), 5);
+    }
+
+    /** The compiler takes this only if they are constants for it, too. */
+    private static int places(int value) {
+        switch (value) {
+            case FrameBoard.NONE: return 1;
+            case FrameBoard.UNKNOWN: return 2;
+            case FrameBoard.OUTSIDE: return 3;
+            case FrameBoard.STATE: return 4;
+            case FrameBoard.FULL: return 5;
+            default: return 0;
+        }
+    }
+
+    private void constructor() {
+        checks.of("the constructor");
+        same("line", face.get(1), "FrameBoard()");
+        Constructor<?>[] constructors = FrameBoard.class.getDeclaredConstructors();
+        checks.due("constructors", constructors.length, 1);
+        checks.due("modifiers", constructors[0].getModifiers(), Modifier.PUBLIC);
+        checks.due("arguments", constructors[0].getParameterCount(), 0);
+        checks.due("exceptions", constructors[0].getExceptionTypes().length, 0);
+    }
+
+    /** Of two arguments of one type, PromisesTest says which one stands first. */
+    private void methods() {
+        checks.of("the methods");
         Set<String> found = new TreeSet<>();
         for (Method method : FrameBoard.class.getDeclaredMethods()) {
             if (!Modifier.isPrivate(method.getModifiers())) {
-                found.add(method.toString().replaceAll("(public|FrameBoard\\.)", "").replace(",", ", ").trim());
+                checks.due("modifiers of " + method.getName(), method.getModifiers(), Modifier.PUBLIC);
+                checks.due("exceptions of " + method.getName(), method.getExceptionTypes().length, 0);
+                found.add(line(method));
             }
         }
-        checks.due("the methods " + found, found.equals(new TreeSet<>(FACE)) ? 1 : 0, 1);
-        Set<String> fields = new HashSet<>();
+        Set<String> want = new TreeSet<>();
+        for (String line : face.subList(2, face.size())) {
+            want.add(line.replaceAll("(int|boolean) \\w+(?=[,)])", "$1"));
+        }
+        same("signatures", found, want);
+        checks.due("methods", found.size(), 30);
+    }
+
+    private static String line(Method method) {
+        List<String> types = new ArrayList<>();
+        for (Class<?> type : method.getParameterTypes()) {
+            types.add(type.getName());
+        }
+        return method.getReturnType() + " " + method.getName() + "(" + String.join(", ", types) + ")";
+    }
+
+    private void nothingElse() {
+        checks.of("nothing else is public");
+        checks.due("fields", FrameBoard.class.getFields().length, 5);
+        checks.due("classes", FrameBoard.class.getClasses().length, 0);
+        List<Member> members = new ArrayList<>(List.of(FrameBoard.class.getMethods()));
+        members.removeIf(member -> member.getDeclaringClass() == Object.class);
+        checks.due("methods, but for those that each object has", members.size(), 30);
         for (Field field : FrameBoard.class.getDeclaredFields()) {
-            if (!Modifier.isPrivate(field.getModifiers())) {
-                fields.add(field.getName());
-                checks.due("modifiers of " + field.getName(), field.getModifiers(),
-                    Modifier.PUBLIC | Modifier.STATIC | Modifier.FINAL);
-            }
-        }
-        checks.due("the constants " + fields, fields.equals(CONSTANTS) ? 1 : 0, 1);
-        Constructor<?>[] constructors = FrameBoard.class.getDeclaredConstructors();
-        checks.due("constructors", constructors.length, 1);
-        checks.due("arguments of the constructor", constructors[0].getParameterCount(), 0);
-        checks.due("NONE", FrameBoard.NONE, -1);
-        checks.due("UNKNOWN", FrameBoard.UNKNOWN, -101);
-        checks.due("OUTSIDE", FrameBoard.OUTSIDE, -102);
-        checks.due("STATE", FrameBoard.STATE, -103);
-        checks.due("FULL", FrameBoard.FULL, -104);
-    }
-
-    private void classesInside() {
-        Set<String> names = new HashSet<>();
-        for (String signature : FACE) {
-            names.add(signature.substring(signature.indexOf(' ') + 1, signature.indexOf('(')));
-        }
-        checks.due("at most twelve classes", FrameBoard.class.getDeclaredClasses().length < 12 ? 1 : 0, 1);
-        privateNames(FrameBoard.class, names);
-        for (Class<?> inside : FrameBoard.class.getDeclaredClasses()) {
-            checks.due("static: " + inside, Modifier.isStatic(inside.getModifiers()) ? 1 : 0, 1);
-            checks.due("not public: " + inside, Modifier.isPublic(inside.getModifiers()) ? 1 : 0, 0);
-            privateNames(inside, names);
+            same("private or public: " + field.getName(), Modifier.isPrivate(field.getModifiers()),
+                !Modifier.isPublic(field.getModifiers()));
         }
     }
 
-    private void privateNames(Class<?> type, Set<String> face) {
-        for (Method method : type.getDeclaredMethods()) {
-            boolean bears = Modifier.isPrivate(method.getModifiers()) && face.contains(method.getName());
-            checks.due("a private method of the face's name: " + method, bears ? 1 : 0, 0);
-            checks.due("at most seven parameters: " + method, method.getParameterCount() > 7 ? 1 : 0, 0);
-        }
-        for (Field field : type.getDeclaredFields()) {
-            int modifiers = field.getModifiers();
-            boolean loose = Modifier.isStatic(modifiers) && !Modifier.isFinal(modifiers);
-            checks.due("static and not final: " + field, loose ? 1 : 0, 0);
-        }
-    }
-
-    private void barredWords() {
-        String code = source.replaceAll("(?s)/\\*.*?\\*/|//[^\n]*", "");
-        for (String word : BARRED) {
-            Matcher matcher = Pattern.compile(word).matcher(code);
-            checks.due("in the source: " + word, matcher.find() ? 1 : 0, 0);
-        }
-        checks.due("signs beyond 127", source.chars().filter(sign -> sign > 127).count(), 0);
-    }
-
-    private void methodLengths() {
-        int begun = 0;
-        String[] lines = source.split("\n");
-        for (int i = 0; i < lines.length; i++) {
-            if (lines[i].matches(" {4,8}[a-z].*\\(.*\\{")) {
-                begun = i;
-            } else if (lines[i].matches(" {4,8}}")) {
-                checks.due("more than sixty lines from line " + (begun + 1), i - begun > 60 ? 1 : 0, 0);
-            }
+    /** The signatures at the head of the promises are those of the face, in its order. */
+    private void promises() {
+        checks.of("the promises");
+        for (int promise = 1; promise <= 31; promise++) {
+            same("promise " + promise, document.signature(promise), face.get(promise));
         }
     }
 }

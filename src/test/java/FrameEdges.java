@@ -29,7 +29,7 @@ final class FrameEdges extends Edges {
         promise(7);
         says("Returns one property of the frame.");
         with("s4:00,11,22,33,01;p0q1", "", "about(0) = 2; about(1) = 4; about(2) = 5; about(3) = 1; about(4) = 3");
-        says("0: its kind");
+        says("`what`: 0: its kind");
         for (int kind = 0; kind < 5; kind++) {
             with(Checks.frameText(kind, 1, 0), "", "about(0) = " + kind);
             with(Checks.frameText(kind, 4, 65535), "", "about(0) = " + kind);
@@ -90,7 +90,7 @@ final class FrameEdges extends Edges {
             "world(*, 2)", 0, 3, UNKNOWN);
         beyond(with("k1:;p0q", "", "world(0, 2) = 1; world(1, 2) = -101; add() = 1; world(1, 2) = 0; take(0) = 1;"
             + " world(0, 2) = 0"), "world(*, 2)", 0, 0, UNKNOWN);
-        says("0: how many arrows lead from it");
+        says("`what`: 0: how many arrows lead from it");
         with("k4:30,31,32,33,00,10;pq", "", "world(3, 0) = 4; world(0, 0) = 1; world(1, 0) = 1; world(2, 0) = 0");
         says("1: how many arrows lead to it");
         with("k4:03,13,23,33,00,01;pq", "", "world(3, 1) = 4; world(0, 1) = 1; world(1, 1) = 1; world(2, 1) = 0");

@@ -135,6 +135,12 @@ final class Model {
             return a;
         }
 
+        /** The same with the valuation of a number. */
+        Shape marked(long valuationNumber) {
+            Shape other = numbered(kind, size(), 0, valuationNumber);
+            return new Shape(kind, to, other.p, other.q);
+        }
+
         /** Of the worlds that a list names, in its order; arrows and marks go along. */
         Shape only(List<Integer> worlds, boolean[][] arrows) {
             int n = worlds.size();
@@ -555,16 +561,14 @@ final class Model {
 
     static boolean isValid(Shape shape, String formula) {
         for (int valuation = 0; valuation < 1 << (2 * shape.size()); valuation++) {
-            boolean[][] to = shape.to;
-            Shape marked = numbered(shape.kind, shape.size(), 0, valuation);
-            if (failure(new Shape(shape.kind, to, marked.p, marked.q), formula) != NONE) {
+            if (failure(shape.marked(valuation), formula) != NONE) {
                 return false;
             }
         }
         return true;
     }
 
-    private static int failure(Shape shape, String formula) {
+    static int failure(Shape shape, String formula) {
         for (int a = 0; a < shape.size(); a++) {
             if (!holds(shape, formula, 0, a)) {
                 return a;

@@ -4,43 +4,49 @@ import java.util.Random;
 
 /** Long runs of drawn calls, each asked of FrameBoard and of Model; the same runs every time. */
 public final class RandomRunsTest {
-    private static final int RUNS = 400;
-    private static final int CALLS = 512;
+    static final int RUNS = 400;
+    static final int CALLS = 512;
     private static final int[] EDGES = {Integer.MIN_VALUE, -1, 5, 6, 7, 31, 32, 33, 64, 1 << 16, Integer.MAX_VALUE};
 
     private final Random random;
     private final FrameBoard board = new FrameBoard();
     private final Model model = new Model();
     private final List<String> done = new ArrayList<>();
+    private final List<String> next = new ArrayList<>();
+    private boolean gone = false;
 
     private RandomRunsTest(int seed) {
         random = new Random(seed);
     }
 
+    /** Two objects are asked by turns, so that neither can take what the other one holds for its own. */
     public static void main(String[] args) {
         Checks checks = new Checks();
-        for (int seed = 0; seed < RUNS; seed++) {
-            new RandomRunsTest(seed).run(checks);
+        for (int seed = 0; seed < RUNS; seed += 2) {
+            RandomRunsTest one = new RandomRunsTest(seed);
+            RandomRunsTest other = new RandomRunsTest(seed + 1);
+            for (int call = 0; call < CALLS; call++) {
+                one.step(checks);
+                other.step(checks);
+            }
         }
         checks.finish("RandomRunsTest");
     }
 
-    private void run(Checks checks) {
-        List<String> next = new ArrayList<>();
-        while (done.size() < CALLS) {
-            if (next.isEmpty()) {
-                next.addAll(someCalls());
-            }
-            String call = done.size() == CALLS - 1 ? "digest()" : next.remove(0);
-            done.add(call);
-            long want = Checks.call(model, call);
-            long got = Checks.call(board, call);
-            if (got != want) {
-                checks.due(String.join("; ", done), got, want);
-                return;
-            }
-            checks.due(call, got, want);
+    /** Asks for one call more; behind a wrong answer the two may differ in anything, so nothing more is asked. */
+    private void step(Checks checks) {
+        if (gone) {
+            return;
         }
+        if (next.isEmpty()) {
+            next.addAll(someCalls());
+        }
+        String call = done.size() == CALLS - 1 ? "digest()" : next.remove(0);
+        done.add(call);
+        long want = Checks.call(model, call);
+        long got = Checks.call(board, call);
+        gone = got != want;
+        checks.due(gone ? String.join("; ", done) : call, got, want);
     }
 
     private List<String> someCalls() {

@@ -10,6 +10,7 @@ final class TextEdges extends Edges {
 
     void all() {
         aNewObject();
+        objectsApart();
         letter();
         blank();
         faultAsFrame();
@@ -32,6 +33,27 @@ final class TextEdges extends Edges {
         for (int what = 0; what <= 10; what++) {
             checks.fresh("count(" + what + ") = 0");
         }
+    }
+
+    /** What one object holds is its own: two are made and asked by turns, and a third one is still new. */
+    private void objectsApart() {
+        promise(1);
+        says("Creates an object without a frame, a formula, observations and an image, with an empty page.");
+        FrameBoard one = with("y3:01,12;p2q01", ">Mp&q~p", "see(1, true) = 1; image() = 3; see(0, false) = 2; be(4) = 3;"
+            + " draw(2, 2, true) = 3; mark(0, 3) = 2; fail(1, 1) = 1; tells(0) = 0; letter(107) = 1; letter(50) = 2");
+        long before = checks.ask(one, "digest()");
+        FrameBoard other = checks.fresh("about(0) = -103; sign(0) = -101; forget() = 0; restore() = -103; blank() = 0");
+        checks.readFrame(other, "t2:10,11;p01q");
+        checks.readFormula(other, "|~qNp");
+        checks.run(other, "see(3, false) = 1; image() = 2; take(0) = 1; forget() = 1; letter(113) = 1; letter(126) = 2;"
+            + " letter(112) = 3; tells(1) = 0; tells(2) = 0; part(0) = 1");
+        due(one, "digest()", before);
+        checks.run(one, "part(0) = 3; part(1) = 6; part(3) = 2; sign(7) = -101; sign(6) = 112; valid() = 0; sorts(0) = 16;"
+            + " count(9) = 1; count(10) = 1; fault(0) = 2; blank() = 2; restore() = 3; about(0) = 3; about(2) = 2;"
+            + " world(0, 2) = 2; sorts(0) = 25");
+        checks.run(other, "about(1) = 1; sign(1) = 126; part(0) = 1; count(9) = 0; count(10) = 2; sorts(0) = 31; fault(1) = 1;"
+            + " restore() = 2; about(0) = 1; arrow(1, 0) = 1; world(1, 2) = 1; sorts(0) = 4; blank() = 3");
+        checks.fresh("digest() = " + checksum(31, 0, 0, 0, 0, 0, 0, 0, 0, 0, 0, 0, 0) + "; restore() = -103; sign(0) = -101");
     }
 
     private void letter() {
@@ -176,7 +198,7 @@ final class TextEdges extends Edges {
 
     private void faultAnswers() {
         promise(4);
-        says("0: as a frame");
+        says("`what`: 0: as a frame");
         checks.run(page("k1"), "fault(0) = 2; fault(1) = 0");
         checks.run(page("q"), "fault(0) = 0");
         checks.run(with("k1:;pq", "p", "letter(112) = 1"), "fault(0) = 0");
