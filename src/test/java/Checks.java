@@ -13,7 +13,11 @@ final class Checks {
     private static final int MOST_CALLS = 512;
     /** Stands for the answer of a call that threw; no call is due to answer this. */
     private static final long THREW = Long.MIN_VALUE;
+    /** Far more than any test takes. */
+    private static final int MOST_MILLISECONDS = 300_000;
     private static final Map<String, Method> METHODS = new HashMap<>();
+    /** The call that is being made, or was made last. */
+    private static volatile String calling = "";
 
     private final List<String> wrong = new ArrayList<>();
     private final Map<FrameBoard, Integer> calls = new IdentityHashMap<>();
@@ -21,6 +25,21 @@ final class Checks {
     private final Map<String, Integer> wrongOf = new LinkedHashMap<>();
     private String sentence = "";
     private int asked = 0;
+
+    /** A call that does not end would let the test hang: then it is told, and the test fails. */
+    Checks() {
+        Thread watch = new Thread(() -> {
+            try {
+                Thread.sleep(MOST_MILLISECONDS);
+                System.out.println("no end of " + calling);
+            } catch (InterruptedException e) {
+                System.out.println("not watched any more");
+            }
+            Runtime.getRuntime().halt(1);
+        });
+        watch.setDaemon(true);
+        watch.start();
+    }
 
     /** Names the sentence of the document that the answers from now on are due by. */
     void of(String words) {
@@ -131,6 +150,7 @@ final class Checks {
 
     /** Makes a call that is written as text, on an object of any class. */
     static long call(Object object, String call) {
+        calling = call;
         int open = call.indexOf('(');
         String name = call.substring(0, open);
         String inner = call.substring(open + 1, call.length() - 1).trim();

@@ -138,6 +138,11 @@ public final class LanguageTest {
             }
         }
         checks.due("the constructor and the methods", face.size(), 31);
+        for (Map.Entry<VariableTree, ClassTree> field : source.fields().entrySet()) {
+            boolean isFace = field.getKey().getName().toString().matches("NONE|UNKNOWN|OUTSIDE|STATE|FULL");
+            holds("private: " + field.getKey(), field.getValue() != source.classes().get(0)
+                || Source.is(isFace ? Modifier.PUBLIC : Modifier.PRIVATE, field.getKey()));
+        }
         says("but for the classes inside it, which are private or package-visible and static.");
         for (ClassTree inside : source.classes().subList(1, source.classes().size())) {
             Set<Modifier> flags = inside.getModifiers().getFlags();
@@ -166,8 +171,10 @@ public final class LanguageTest {
         says("No inner class that isn't static, no local or anonymous class, no lambda, no method reference.");
         for (TreePath path : source.all(Tree.Kind.CLASS)) {
             Tree around = path.getParentPath().getLeaf();
-            holds("where it stands: " + ((ClassTree) path.getLeaf()).getSimpleName(), around == source.unit
-                || around == source.classes().get(0));
+            ClassTree one = (ClassTree) path.getLeaf();
+            holds("where it stands: " + one.getSimpleName(), around == source.unit || around == source.classes().get(0));
+            holds("static: " + one.getSimpleName(), around == source.unit
+                || one.getModifiers().getFlags().contains(Modifier.STATIC));
         }
         for (TreePath path : source.all(Tree.Kind.NEW_CLASS)) {
             holds(source.at(path), ((NewClassTree) path.getLeaf()).getClassBody() == null);
@@ -461,9 +468,14 @@ public final class LanguageTest {
         }
         says("A constructor calls no method that another class could override and hands out nothing of the object that it"
             + " makes.");
+        for (TreePath path : source.all(Tree.Kind.METHOD_INVOCATION)) {
+            MethodTree around = Source.methodAround(path);
+            boolean isSuper = source.element(path).getSimpleName().contentEquals("<init>");
+            holds(source.at(path) + " in a constructor", isSuper || around == null || !Source.isConstructor(around));
+        }
         for (MethodTree method : source.methods()) {
-            boolean makes = Source.isConstructor(method);
-            holds("the constructor of " + method, !makes || !method.getBody().toString().matches("(?s).*(\\bthis\\b|\\([^)]).*"));
+            boolean hands = method.getBody() != null && method.getBody().toString().matches("(?s).*\\bthis\\b.*");
+            holds("hands out itself: " + method.getName(), !Source.isConstructor(method) || !hands);
         }
     }
 

@@ -35,7 +35,7 @@ public final class SentencesTest {
         new FrameEdges(test.checks, test.document).all();
         new AnswerEdges(test.checks, test.document).all();
         new DescriptionEdges(test.checks, test.document).all();
-        new ValuationEdges(test.checks, test.document).all();
+        new SearchEdges(test.checks, test.document).all();
         new Refusals(test.checks, test.document).all();
         test.everySentence();
         test.checks.finish("SentencesTest");
