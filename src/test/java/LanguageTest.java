@@ -14,10 +14,14 @@ import com.sun.source.tree.UnaryTree;
 import com.sun.source.tree.VariableTree;
 import com.sun.source.util.TreePath;
 import java.io.IOException;
+import java.lang.reflect.Array;
+import java.lang.reflect.Field;
 import java.nio.file.Files;
 import java.nio.file.Path;
+import java.util.Collections;
 import java.util.HashMap;
 import java.util.HashSet;
+import java.util.IdentityHashMap;
 import java.util.List;
 import java.util.Map;
 import java.util.Random;
@@ -70,7 +74,7 @@ public final class LanguageTest {
         this.source = source;
     }
 
-    public static void main(String[] args) throws IOException {
+    public static void main(String[] args) throws IOException, IllegalAccessException {
         LanguageTest test = new LanguageTest(Document.ofTheLanguage(), Source.read(PLACE));
         test.oneFile();
         test.face();
@@ -455,7 +459,7 @@ public final class LanguageTest {
     }
 
     /** All objects and arrays are made where an object of the class is made, and none by a call of a method. */
-    private void objects() {
+    private void objects() throws IllegalAccessException {
         rule(12);
         says("An object may be made by any method, and none in a loop without a bound. What a run makes is counted, the library's"
             + " own objects too (a list's iterator, the copy that values() makes, a text and its characters): keep it small");
@@ -466,6 +470,10 @@ public final class LanguageTest {
         for (TreePath path : source.all(Tree.Kind.METHOD_INVOCATION)) {
             holds(source.at(path) + " copies nothing", !source.type(path).getKind().equals(TypeKind.ARRAY));
         }
+        Set<Object> made = Collections.newSetFromMap(new IdentityHashMap<>());
+        long parts = partsOf(new FrameBoard(), made);
+        holds("objects and arrays of one object: " + made.size(), made.size() <= 20);
+        holds("fields and elements of one object: " + parts, parts <= 300);
         says("A constructor calls no method that another class could override and hands out nothing of the object that it"
             + " makes.");
         for (TreePath path : source.all(Tree.Kind.METHOD_INVOCATION)) {
@@ -477,6 +485,26 @@ public final class LanguageTest {
             boolean hands = method.getBody() != null && method.getBody().toString().matches("(?s).*\\bthis\\b.*");
             holds("hands out itself: " + method.getName(), !Source.isConstructor(method) || !hands);
         }
+    }
+
+    /** How many fields and elements there are in an object or array, and in all that it holds. */
+    private static long partsOf(Object one, Set<Object> made) throws IllegalAccessException {
+        if (!made.add(one)) {
+            return 0;
+        }
+        if (one.getClass().isArray()) {
+            return Array.getLength(one);
+        }
+        long parts = 0;
+        for (Class<?> type = one.getClass(); type != Object.class; type = type.getSuperclass()) {
+            for (Field field : type.getDeclaredFields()) {
+                if (!java.lang.reflect.Modifier.isStatic(field.getModifiers())) {
+                    field.setAccessible(true);
+                    parts += 1 + (field.getType().isPrimitive() ? 0 : partsOf(field.get(one), made));
+                }
+            }
+        }
+        return parts;
     }
 
     private void answers() throws IOException {

@@ -52,8 +52,8 @@ final class Source {
         JavaCompiler compiler = ToolProvider.getSystemJavaCompiler();
         DiagnosticCollector<JavaFileObject> found = new DiagnosticCollector<>();
         StandardJavaFileManager files = compiler.getStandardFileManager(null, null, null);
-        JavacTask task = (JavacTask) compiler.getTask(null, files, found, List.of("--release", "17"), null,
-            files.getJavaFileObjects(place));
+        List<String> options = Runtime.version().feature() == 17 ? List.of() : List.of("--release", "17");
+        JavacTask task = (JavacTask) compiler.getTask(null, files, found, options, null, files.getJavaFileObjects(place));
         CompilationUnitTree unit = task.parse().iterator().next();
         task.analyze();
         if (!found.getDiagnostics().isEmpty()) {
